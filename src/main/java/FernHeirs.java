@@ -319,7 +319,7 @@ public final class FernHeirs {
             if (then.mist[heir] >= CLOUDED_MIST) {
                 return passed;
             }
-            then.passHour(members, rule);
+            then.passHour(members, rule, true);
         }
         return NONE;
     }
@@ -359,7 +359,7 @@ public final class FernHeirs {
         then.copy(history.now);
         int before = then.gasps[heir];
         for (int passed = 1; passed <= 99; passed++) {
-            then.passHour(members, rule);
+            then.passHour(members, rule, true);
             if (then.gasps[heir] > before) {
                 return passed;
             }
@@ -408,9 +408,9 @@ public final class FernHeirs {
                 drawn = drawnAfter(drawn);
                 int heir = drawnBy(drawn, members.heirs);
                 drawn = drawnAfter(drawn);
-                then.tryStep(drawnBy(drawn, DRAWN_STEPS), heir, 0, members);
+                then.tryStep(drawnBy(drawn, DRAWN_STEPS), heir, 0, members, rule);
             }
-            then.passHour(members, rule);
+            then.passHour(members, rule, true);
         }
     }
 
@@ -525,7 +525,7 @@ public final class FernHeirs {
             for (int ferns = 0; ferns <= MOST_FERNS; ferns++) {
                 then.beAlone(history.now.hour, heir, breath, ferns);
                 for (int hour = 1; hour <= BOOK_HOURS; hour++) {
-                    then.passGlasses(members.sun, rule);
+                    then.passHour(members, rule, false);
                     pairs.note(hour, then.mist[heir]);
                 }
                 pairs.keepIfRight(lines, 10 * breath + ferns);
@@ -550,7 +550,7 @@ public final class FernHeirs {
     }
 
     private static int choices(int n, int m) {
-        int many = m > n ? 0 : 1;
+        int many = 1;
         for (int i = 0; i < m; i++) {
             many = many * (n - i) / (i + 1);
         }
@@ -1155,8 +1155,8 @@ public final class FernHeirs {
                 case '*': return left * right;
                 case '/': return right == 0 ? 0 : left / right;
                 case '%': return right == 0 ? 0 : left % right;
-                case LEAST: return Math.min(left, right);
-                default: return Math.max(left, right);
+                case LEAST: return left < right ? left : right;
+                default: return left > right ? left : right;
             }
         }
     }
@@ -1251,8 +1251,8 @@ public final class FernHeirs {
             return many;
         }
 
-        /** Does a step that needs no law, if it can be done: whether it was. */
-        boolean tryStep(int kind, int heir, int number, Court court) {
+        /** Does a step, if it can be done: whether it was. */
+        boolean tryStep(int kind, int heir, int number, Court court, Law law) {
             switch (kind) {
                 case TAP: return stands[heir] == 1 && passTap(court.friends[heir]);
                 case WIPE: return mist[heir] > 0 && wipeGlass(heir);
@@ -1261,6 +1261,7 @@ public final class FernHeirs {
                 case LOWER: return stands[heir] == 0 && lowerGlass(heir);
                 case CRACK: return stands[heir] == 1 && cracks[heir] < MOST_CRACKS && crackGlass(heir);
                 case FERN: return ferns[heir] != number && setFerns(heir, number);
+                case HOUR: return hour < CLOSED_HOUR && passHour(court, law, true);
                 default: return kind == DAWN && beginDawn();
             }
         }
@@ -1314,40 +1315,29 @@ public final class FernHeirs {
 
         void passHours(int many, Court court, Law law) {
             for (int passed = 0; passed < many; passed++) {
-                passHour(court, law);
+                passHour(court, law, true);
             }
         }
 
-        void passHour(Court court, Law law) {
-            for (int k = 0; k < court.keepers; k++) {
+        /** An hour goes by, with or without the coughs of keepers. */
+        boolean passHour(Court court, Law law, boolean coughing) {
+            for (int k = 0; coughing && k < court.keepers; k++) {
                 int beside = court.keeperHeir[k];
                 if (stands[beside] == 1 && court.nextCough(k, hour) == 0) {
                     taps[beside]++;
                 }
             }
-            passGlasses(court.sun, law);
-        }
-
-        /** An hour goes by without a cough. */
-        void passGlasses(int sun, Law law) {
             for (int h = 0; h < MOST_HEIRS; h++) {
                 if (stands[h] == 1) {
-                    passGlass(h, sun, law);
+                    mist[h] = Math.min(FULL, mist[h] + comesOn(h, court.sun, law));
+                    air[h] = Math.max(0, Math.min(FULL, air[h] - breath[h] + ferns[h]));
+                    gasps[h] += air[h] == 0 ? 1 : 0;
+                    clouded[h] = mist[h] >= CLOUDED_MIST && clouded[h] == NONE ? hour : clouded[h];
                 }
             }
             Arrays.fill(taps, 0);
             hour++;
-        }
-
-        private void passGlass(int h, int sun, Law law) {
-            mist[h] = Math.min(FULL, mist[h] + comesOn(h, sun, law));
-            air[h] = Math.max(0, Math.min(FULL, air[h] - breath[h] + ferns[h]));
-            if (air[h] == 0) {
-                gasps[h]++;
-            }
-            if (mist[h] >= CLOUDED_MIST && clouded[h] == NONE) {
-                clouded[h] = hour;
-            }
+            return true;
         }
 
         int comesOn(int h, int sun, Law law) {
@@ -1454,7 +1444,9 @@ public final class FernHeirs {
                     runAgain(step, open + 1, morning, court, law);
                     step = ends[step];
                 } else {
-                    runStep(step, morning, court, law);
+                    boolean can = morning.tryStep(kinds[step], heirOf[step], numbers[step], court, law);
+                    done += can ? 1 : 0;
+                    refused += can ? 0 : 1;
                     step++;
                 }
             }
@@ -1464,17 +1456,6 @@ public final class FernHeirs {
             for (int round = 0; round < numbers[step] && begun < MOST_BEGUN && open <= MOST_OPEN; round++) {
                 runRow(step + 1, ends[step], open, morning, court, law);
             }
-        }
-
-        private void runStep(int step, Morning morning, Court court, Law law) {
-            boolean can = kinds[step] == HOUR
-                    ? morning.hour < CLOSED_HOUR
-                    : morning.tryStep(kinds[step], heirOf[step], numbers[step], court);
-            if (can && kinds[step] == HOUR) {
-                morning.passHour(court, law);
-            }
-            done += can ? 1 : 0;
-            refused += can ? 0 : 1;
         }
     }
 
@@ -1595,7 +1576,7 @@ public final class FernHeirs {
 
         /** Who sits on a seat of the first row; NONE without such a row or seat. */
         int firstOn(int seat, Court court) {
-            if (inAll() == 0 || seat >= court.heirs) {
+            if (seat >= court.heirs) {
                 return NONE;
             }
             int bits = 0;

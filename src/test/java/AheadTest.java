@@ -42,6 +42,14 @@ public final class AheadTest {
         Due.same("48 hours", y.clouds(0), 48);
         Due.law(y, "1");
         Due.same("50 hours", y.clouds(0), -1);
+        Due.work(y, "hour;");
+        Due.same("49 hours", y.clouds(0), -1);
+        Due.work(y, "hour;");
+        Due.same("48 hours", y.clouds(0), 48);
+        Due.work(y, "lower 0;wipe 0;hour;");
+        Due.same("a mist of 1", y.told(11), 1);
+        Due.work(y, "wipe 0;");
+        Due.row("is wiped", "0 0", () -> y.told(11), () -> y.told(10));
     }
 
     private static void wipes() {
@@ -54,10 +62,14 @@ public final class AheadTest {
         Due.row("the last is behind all", "0 1 3 -1", () -> x.wipes(0), () -> x.wipes(1), () -> x.wipes(2), () -> x.wipes(3));
         Due.work(x, "lift 0;");
         Due.row("a glass is off", "-1 0 2 -1", () -> x.wipes(0), () -> x.wipes(1), () -> x.wipes(2), () -> x.wipes(3));
+        FernHeirs seven = Due.of("heir 1 9;heir 1 8;heir 1 7;heir 1 6;heir 1 5;heir 1 4;heir 9 9;");
+        Due.work(seven, "hour;");
+        Due.row("seven", "-1 0", () -> seven.wipes(0), () -> seven.wipes(6));
         Due.noSuch("wipes of none", () -> x.wipes(4));
         Due.noSuch("wipes of fewer", () -> x.wipes(-1));
         FernHeirs y = Due.of("heir 1 0;", "1 + hour / 23");
         Due.same("not within 24 hours", y.wipes(0), -1);
+        Due.row("not behind clouds of another one", "-1 0", () -> y.wipes(0), () -> Due.of("heir 1 0;heir 9 9;").wipes(1));
         Due.law(y, "2 + hour / 22");
         Due.same("in the 24th", y.wipes(0), 0);
     }

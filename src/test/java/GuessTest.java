@@ -45,6 +45,7 @@ public final class GuessTest {
     private static void fromNowOn() {
         FernHeirs x = Due.of("heir 5 2;heir 9 0;hears 0 1;keeper 0 1;sun 3;", "breath + cracks + taps * 3 + (99 - air) / 99 + sun * ferns");
         Due.work(x, "crack 0;tap 1;hour;tap 1;lift 1;");
+        Due.same("asked ahead", x.ahead(0, 1), 0);
         book(x, "1 4;", 1);
         Due.row("no cracks, no taps, no coughs", "10 40 10 40", () -> x.fits(0, 0), () -> x.fits(0, 1), () -> x.fits(1, 0),
                 () -> x.fits(1, 1));

@@ -79,8 +79,16 @@ public final class KeptTest {
         Due.row("restored", "0 2 2", x::restore, () -> x.count(2), () -> x.told(3));
         Due.row("law, book, tape and refusals stay", "1 1 20 1", () -> x.cloud(0), () -> x.told(9), () -> x.count(1), () -> x.status(1));
         Due.row("its works can be undone", "1 1 0 0 -1", x::undo, () -> x.told(3), x::undo, () -> x.told(3), x::undo);
-        x.image();
         Due.same("the tape is emptied", x.law(0), -9);
+        Due.work(x, "hour;");
+        Due.work(x, "hour;");
+        Due.work(x, "hour;");
+        x.image();
+        Due.row("other works, as many", "2 1 0 1 1 1", x::undo, x::undo, x::undo, () -> Due.work(x, "crack 0;"),
+                () -> Due.work(x, "crack 0;"), () -> Due.work(x, "crack 0;"));
+        Due.row("the image has its own", "0 3 3 0 2 2 1 1 0 0", x::restore, () -> x.count(2), () -> x.told(3), () -> x.heir(0, 4),
+                x::undo, () -> x.told(3), x::undo, () -> x.told(3), x::undo, () -> x.heir(0, 4));
+        x.image();
         Due.court(x, "heir 1 1;");
         Due.row("a court forgets images", "0 -1", () -> x.count(0), x::restore);
         for (int i = 0; i < 16; i++) {

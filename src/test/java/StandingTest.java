@@ -108,6 +108,10 @@ public final class StandingTest {
         Due.row("the last", "3 95", () -> x.stalest(0), () -> x.stalest(1));
         Due.wrongArgument("stalest 2", () -> x.stalest(2));
         Due.wrongArgument("stalest -1", () -> x.stalest(-1));
+        FernHeirs seven = Due.of("heir 1 1;".repeat(6) + "heir 4 1;");
+        Due.work(seven, "hour;");
+        Due.row("the last of seven", "6 96 6 9", () -> seven.stalest(0), () -> seven.stalest(1), () -> seven.greenest(0),
+                () -> seven.greenest(1));
         FernHeirs none = new FernHeirs();
         Due.row("without heirs", "-1 -1", () -> none.stalest(0), () -> none.stalest(1));
     }
@@ -137,6 +141,8 @@ public final class StandingTest {
         Due.row("none", "0 -1", () -> x.twins(0), () -> x.twins(1));
         Due.work(x, "fern 3 1;lift 0;");
         Due.row("the glass does not matter", "1 3", () -> x.twins(0), () -> x.twins(1));
+        FernHeirs seven = Due.of("heir 1 1;heir 1 2;heir 1 3;heir 1 4;heir 1 5;heir 1 6;heir 1 6;");
+        Due.row("side by side, the last of seven", "1 56", () -> seven.twins(0), () -> seven.twins(1));
         Due.wrongArgument("twins 2", () -> x.twins(2));
         Due.wrongArgument("twins -1", () -> x.twins(-1));
     }
@@ -158,6 +164,10 @@ public final class StandingTest {
         Due.row("most twos", "3 3", () -> x.gossip(0), () -> x.gossip(1));
         Due.court(x, "heir 1 1;heir 1 1;heir 1 1;heir 1 1;hears 3 2;hears 2 1;hears 1 3;");
         Due.row("the first of three", "1 2", () -> x.gossip(0), () -> x.gossip(1));
+        Due.court(x, "heir 1 1;heir 1 1;hears 1 0;");
+        Due.row("the first of all", "0 1", () -> x.gossip(0), () -> x.gossip(1));
+        Due.court(x, "heir 1 1;".repeat(7) + "hears 6 1;hears 6 2;");
+        Due.row("the last of seven", "6 2", () -> x.gossip(0), () -> x.gossip(1));
         Due.court(x, "heir 1 1;heir 1 1;");
         Due.row("no twos", "-1 -1", () -> x.gossip(0), () -> x.gossip(1));
         Due.wrongArgument("gossip 2", () -> x.gossip(2));

@@ -50,6 +50,7 @@ public final class TapsTest {
 
     private static void still() {
         Due.same("no heirs", new FernHeirs().still(), 0);
+        Due.same("one heir", Due.of("heir 1 0;").still(), 1);
         Due.same("no twos", Due.of(SEVEN).still(), 127);
         Due.same("a ring of five", Due.of("heir 1 0;".repeat(5) + "hears 0 1;hears 1 2;hears 2 3;hears 3 4;hears 4 0;").still(), 5);
         Due.same("one of two", Due.of("heir 1 0;heir 1 0;hears 1 0;").still(), 1);
@@ -71,6 +72,7 @@ public final class TapsTest {
     }
 
     private static void seats() {
+        Due.same("a seat, asked first", Due.of("heir 1 0;heir 1 0;heir 1 0;hears 0 1;").seat(1), 2);
         row("", 1, "");
         row("heir 1 0;", 1, "0");
         row("heir 1 0;heir 1 0;", 2, "01");

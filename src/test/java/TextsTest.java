@@ -48,6 +48,16 @@ public final class TextsTest {
         Due.wrongArgument("book of more bytes than there are", () -> x.book(21));
         Due.wrongArgument("court of more bytes than there are", () -> x.court(21));
         Due.row("work of some of them", "1 0 1", () -> x.work(5), () -> x.count(1), () -> x.told(3));
+        Due.feed(x, "sun 12;");
+        Due.row("a text ends where n ends: a sign", "-9 6", () -> x.court(6), x::fault);
+        Due.feed(x, "sun 12;");
+        Due.row("a number", "-9 5", () -> x.court(5), x::fault);
+        Due.feed(x, "sun 12;");
+        Due.row("a word", "-9 0", () -> x.court(2), x::fault);
+        Due.feed(x, "12breath");
+        Due.row("other digits are not read", "1 1", () -> x.law(1), () -> x.would(9, 9, 0, 0, 0, 0, 0, 0, 0));
+        Due.feed(x, "breaths");
+        Due.row("nor other letters", "1 9", () -> x.law(6), () -> x.would(9, 9, 0, 0, 0, 0, 0, 0, 0));
         Due.feed(x, "12" + " ".repeat(148));
         Due.same("law of 150 bytes", x.law(150), 1);
         Due.feed(x, "hour;" + " ".repeat(145));
@@ -67,7 +77,8 @@ public final class TextsTest {
                 () -> x.heir(1, 5), () -> x.heir(1, 6), () -> x.heir(1, 7), () -> x.heir(1, 8));
         Due.same("a law", Due.law(x, "7"), 1);
         Due.same("a book", Due.book(x, "1 1;"), 1);
-        Due.same("a work", Due.work(x, "crack 0;lower 1;tap 1;again 9[hour;];lift 2;fern 1 5;"), 13);
+        Due.same("a work", Due.work(x, "crack 0;lower 1;again 12[hour;];lift 2;fern 1 5;tap 1;"), 16);
+        Due.row("it gasped, it heard a tap", "2 1", () -> x.heir(1, 8), () -> x.heir(0, 5));
         x.image();
         Due.same("a court behind all that", Due.court(x, "heir 4 3;heir 4 2;"), 2);
         Due.row("all is new", "2 0 0 0 3 0 -1 12 0 0 0 0 0 0 0 -1", () -> x.told(0), () -> x.told(1), () -> x.told(2),
@@ -76,6 +87,10 @@ public final class TextsTest {
                 x::undo);
         Due.row("and the usual law", "11 10 2 0 0 99 0", () -> x.cloud(0), () -> x.cloud(1), () -> x.heir(1, 1),
                 () -> x.heir(0, 4), () -> x.heir(0, 5), () -> x.heir(0, 3), () -> x.heir(0, 9));
+        Due.row("behind half a court", "-9 2 1 0 0 0 0 12 0", () -> Due.court(x, "heir 1 1;heir 2 2;hears 0 1;keeper 0 1;sun 5;x"),
+                () -> x.told(0), () -> Due.court(x, "heir 7 7;"), () -> x.heir(0, 9), () -> x.told(1), () -> x.told(2),
+                () -> x.told(3), () -> x.told(7), () -> x.heir(0, 5));
+        Due.row("the sun at 0", "0 0", () -> Due.court(x, "sun 0;"), () -> x.told(7));
     }
 
     private static void fault(String kind, String text, int answer, int place) {
@@ -97,6 +112,13 @@ public final class TextsTest {
         fault("court", "Heir 1 2;", -9, 0);
         fault("court", "  heirs 1 2;", -9, 2);
         fault("court", "hei r 1 2;", -9, 0);
+        fault("court", "heira 1 2;", -9, 0);
+        fault("court", "heirz 1 2;", -9, 0);
+        fault("court", "heirA 1 2;", -9, 4);
+        fault("court", "heir/1 2;", -9, 4);
+        fault("court", "heir:1 2;", -9, 4);
+        fault("court", "heir 1/2;", -9, 6);
+        fault("court", "heir 1:2;", -9, 6);
         fault("court", "heir a 2;", -9, 5);
         fault("court", "heir 1, 2;", -9, 6);
         fault("court", "heir 1 2 3;", -9, 9);

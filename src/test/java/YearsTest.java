@@ -89,7 +89,7 @@ public final class YearsTest {
                     () -> x.span(first, 20, 20, 1), () -> x.span(first, 20, 20, 2));
             Due.row("span of 1 from " + first, x.year(first, 20, 2) + " " + x.year(first, 20, 2), () -> x.span(first, 1, 20, 0),
                     () -> x.span(first, 1, 20, 1));
-            x.court(0);
+            Due.same("span of an hour from " + first, x.span(first, 20, 1, 1), 0);
             Due.court(x, "heir 9 0;heir 5 0;");
         }
     }
