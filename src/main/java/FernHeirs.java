@@ -574,12 +574,10 @@ public final class FernHeirs {
         needWithin(what, 0, 2);
         int many = 0;
         int first = NONE;
-        int together = 0;
         for (int one = 0; one <= 1; one++) {
             for (int other = 0; other <= 1; other++) {
                 if (rests(one, other, v, w)) {
                     many++;
-                    together = first == NONE ? regentHas(one, other, v, w) + regentHas(other, one, v, w) : together;
                     first = first == NONE ? 10 * one + other : first;
                 }
             }
@@ -587,8 +585,12 @@ public final class FernHeirs {
         switch (what) {
             case 0: return many;
             case 1: return first;
-            default: return together;
+            default: return first == NONE ? 0 : bothHave(first / 10, first % 10, v, w);
         }
+    }
+
+    private static int bothHave(int one, int other, int v, int w) {
+        return regentHas(one, other, v, w) + regentHas(other, one, v, w);
     }
 
     private static boolean rests(int one, int other, int v, int w) {
@@ -1254,38 +1256,43 @@ public final class FernHeirs {
         /** Does a step, if it can be done: whether it was. */
         boolean tryStep(int kind, int heir, int number, Court court, Law law) {
             switch (kind) {
-                case TAP: return stands[heir] == 1 && passTap(court.friends[heir]);
-                case WIPE: return mist[heir] > 0 && wipeGlass(heir);
-                case AIR: return stands[heir] == 1 && air[heir] < FULL && changeAir(heir);
-                case LIFT: return stands[heir] == 1 && liftGlass(heir);
-                case LOWER: return stands[heir] == 0 && lowerGlass(heir);
-                case CRACK: return stands[heir] == 1 && cracks[heir] < MOST_CRACKS && crackGlass(heir);
-                case FERN: return ferns[heir] != number && setFerns(heir, number);
+                case TAP: return passTap(heir, court.friends[heir]);
+                case WIPE: return wipeGlass(heir);
+                case AIR: return changeAir(heir);
+                case LIFT: return liftGlass(heir);
+                case LOWER: return lowerGlass(heir);
+                case CRACK: return crackGlass(heir);
+                case FERN: return setFerns(heir, number);
                 case HOUR: return hour < CLOSED_HOUR && passHour(court, law, true);
                 default: return kind == DAWN && beginDawn();
             }
         }
 
-        private boolean passTap(int friends) {
+        private boolean passTap(int heir, int friends) {
             for (int h = 0; h < MOST_HEIRS; h++) {
-                if ((friends & 1 << h) != 0 && stands[h] == 1) {
+                if (stands[heir] == 1 && stands[h] == 1 && (friends & 1 << h) != 0) {
                     taps[h]++;
                 }
             }
-            return true;
+            return stands[heir] == 1;
         }
 
         private boolean wipeGlass(int heir) {
+            boolean can = mist[heir] > 0;
             mist[heir] = 0;
-            return true;
+            return can;
         }
 
         private boolean changeAir(int heir) {
-            air[heir] = Math.min(FULL, air[heir] + MORE_AIR);
-            return true;
+            boolean can = stands[heir] == 1 && air[heir] < FULL;
+            air[heir] = can ? Math.min(FULL, air[heir] + MORE_AIR) : air[heir];
+            return can;
         }
 
         private boolean liftGlass(int heir) {
+            if (stands[heir] == 0) {
+                return false;
+            }
             stands[heir] = 0;
             mist[heir] = 0;
             air[heir] = FULL;
@@ -1294,18 +1301,21 @@ public final class FernHeirs {
         }
 
         private boolean lowerGlass(int heir) {
+            boolean can = stands[heir] == 0;
             stands[heir] = 1;
-            return true;
+            return can;
         }
 
         private boolean crackGlass(int heir) {
-            cracks[heir]++;
-            return true;
+            boolean can = stands[heir] == 1 && cracks[heir] < MOST_CRACKS;
+            cracks[heir] += can ? 1 : 0;
+            return can;
         }
 
         private boolean setFerns(int heir, int number) {
+            boolean can = ferns[heir] != number;
             ferns[heir] = number;
-            return true;
+            return can;
         }
 
         boolean beginDawn() {
@@ -1393,6 +1403,9 @@ public final class FernHeirs {
             int step = size;
             size++;
             kinds[step] = kind;
+            heirOf[step] = 0;
+            numbers[step] = 0;
+            ends[step] = size;
             if (kind == HOUR || kind == DAWN) {
                 return true;
             }
@@ -1603,7 +1616,7 @@ public final class FernHeirs {
 
     /** Pairs of a breath and ferns by which all lines are right, with the mist they bring hour by hour. */
     private static final class Pairs {
-        private final int[][] mists = new int[PAIRS + 1][BOOK_HOURS + 1];
+        private final int[][] mists = new int[PAIRS][BOOK_HOURS + 1];
         private final int[] alike = new int[FULL + 1];
         private int many;
         private int first;
@@ -1614,19 +1627,22 @@ public final class FernHeirs {
         }
 
         void note(int hour, int mist) {
-            mists[many][hour] = mist;
+            if (many < PAIRS) {
+                mists[many][hour] = mist;
+            }
         }
 
         /** Keeps the pair whose mist was noted; a wrong one is written over. */
         void keepIfRight(Book book, int pair) {
+            if (many >= PAIRS) {
+                return;
+            }
             for (int hour = 1; hour <= BOOK_HOURS; hour++) {
                 if (book.mistAfter[hour] != NONE && book.mistAfter[hour] != mists[many][hour]) {
                     return;
                 }
             }
-            if (many < PAIRS) {
-                many++;
-            }
+            many++;
             first = first == NONE ? pair : first;
         }
 

@@ -44,8 +44,10 @@ public final class TapsTest {
         Due.noSuch("hush of none", () -> x.hush(7, 7));
         Due.noSuch("hush of none", () -> x.hush(0, 7));
         Due.noSuch("hush of fewer", () -> x.hush(-1, -1));
+        Due.noSuch("hush of none and one", () -> x.hush(7, 0));
+        Due.noSuch("hush of fewer and one", () -> x.hush(-1, 0));
         Due.wrongArgument("hush of one", () -> x.hush(3, 3));
-        Due.row("refused", "3 1", () -> x.status(0), () -> x.status(1));
+        Due.row("refused", "5 1", () -> x.status(0), () -> x.status(1));
     }
 
     private static void still() {

@@ -54,6 +54,8 @@ public final class TextsTest {
         Due.row("a number", "-9 5", () -> x.court(5), x::fault);
         Due.feed(x, "sun 12;");
         Due.row("a word", "-9 0", () -> x.court(2), x::fault);
+        Due.feed(x, "sun 12;sun 2;");
+        Due.row("a second word", "-9 7", () -> x.court(9), x::fault);
         Due.feed(x, "12breath");
         Due.row("other digits are not read", "1 1", () -> x.law(1), () -> x.would(9, 9, 0, 0, 0, 0, 0, 0, 0));
         Due.feed(x, "breaths");
