@@ -76,15 +76,17 @@ public final class AheadTest {
 
     /** By works that are undone again: each set of glasses wiped, dawn, 24 hours. */
     private static void wipesAsDone() {
-        FernHeirs x = Due.of("heir 3 3;heir 5 2;heir 2 7;heir 4 4;heir 6 0;keeper 0 3;keeper 2 2;hears 1 3;hears 1 4;sun 5;");
         String[] laws = {"breath * 2 + ferns - taps", "mist % 7 + ferns", "40 - mist + heir", "sun * 40 + heir * 2"};
         String[] works = {"hour;", "tap 1;tap 1;hour;wipe 3;", "lift 4;hour;", "lower 4;wipe 0;hour;hour;", "air 2;fern 0 9;hour;"};
-        for (String work : works) {
-            Due.work(x, work);
+        for (int last = 0; last < works.length; last++) {
             for (String law : laws) {
-                Due.law(x, law);
                 for (int h = 0; h < 5; h++) {
-                    Due.same("wipes of " + h + " behind " + work + " by " + law, x.wipes(h), tried(x, h));
+                    FernHeirs x = Due.of("heir 3 3;heir 5 2;heir 2 7;heir 4 4;heir 6 0;keeper 0 3;keeper 2 2;hears 1 3;hears 1 4;sun 5;");
+                    for (int i = 0; i <= last; i++) {
+                        Due.work(x, works[i]);
+                    }
+                    Due.law(x, law);
+                    Due.same("wipes of " + h + " behind " + works[last] + " by " + law, x.wipes(h), tried(x, h));
                 }
             }
         }
@@ -128,7 +130,7 @@ public final class AheadTest {
     private static void nothingStays() {
         FernHeirs x = Due.of("heir 9 0;heir 5 5;heir 9 9;hears 0 1;keeper 0 2;");
         Due.work(x, "hour;tap 0;crack 1;");
-        String before = all(x);
+        String before = Due.all(x);
         for (int h = 0; h < 3; h++) {
             x.ahead(99, h);
             x.clouds(h);
@@ -143,19 +145,6 @@ public final class AheadTest {
             x.seats();
             x.still();
         }
-        Due.same("all is as before", all(x).equals(before) ? 1 : 0, 1);
-    }
-
-    private static String all(FernHeirs x) {
-        StringBuilder all = new StringBuilder();
-        for (int what = 0; what < 12; what++) {
-            all.append(x.told(what)).append(' ');
-        }
-        for (int h = 0; h < 3; h++) {
-            for (int what = 0; what < 10; what++) {
-                all.append(x.heir(h, what)).append(' ');
-            }
-        }
-        return all.append(x.count(0)).append(x.count(1)).append(x.count(2)).toString();
+        Due.asBefore("asking", before, Due.all(x));
     }
 }

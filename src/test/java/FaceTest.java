@@ -64,7 +64,8 @@ public final class FaceTest {
 
     private static void names(Class<?> of, Set<String> names) {
         for (Method m : of.getDeclaredMethods()) {
-            Due.same("method " + m + " bears a public name", names.contains(m.getName()) ? 1 : 0, 0);
+            boolean hidden = Modifier.isPrivate(m.getModifiers());
+            Due.same("method " + m + " bears a public name", hidden && names.contains(m.getName()) ? 1 : 0, 0);
             Due.same("parameters of " + m, m.getParameterCount() > 7 ? 1 : 0, 0);
         }
     }

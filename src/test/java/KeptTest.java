@@ -10,32 +10,19 @@ public final class KeptTest {
         Due.end();
     }
 
-    private static String all(FernHeirs x) {
-        StringBuilder all = new StringBuilder();
-        for (int what = 0; what < 12; what++) {
-            all.append(what == 10 ? 0 : x.told(what)).append(' ');
-        }
-        for (int h = 0; h < x.told(0); h++) {
-            for (int what = 0; what < 10; what++) {
-                all.append(x.heir(h, what)).append(' ');
-            }
-        }
-        return all.toString();
-    }
-
     private static void undone() {
         FernHeirs x = Due.of("heir 9 7;heir 4 4;hears 0 1;");
         Due.same("nothing to undo", x.undo(), -1);
         String[] works = {"crack 0;tap 0;", "hour;hour;lift 1;", "dawn;fern 0 0;wipe 0;wipe 0;", "", "lower 1;again 15[hour;];", "lift 1;lift 1;"};
         String[] before = new String[works.length];
         for (int i = 0; i < works.length; i++) {
-            before[i] = all(x);
+            before[i] = Due.morning(x);
             Due.work(x, works[i]);
         }
         Due.same("works", x.count(2), 6);
         for (int i = works.length - 1; i >= 0; i--) {
             Due.same("undo " + works[i], x.undo(), i);
-            Due.same("all is as ahead of " + works[i], all(x).equals(before[i]) ? 1 : 0, 1);
+            Due.asBefore("all is as ahead of " + works[i], before[i], Due.morning(x));
         }
         Due.row("none is left", "-1 0", x::undo, () -> x.count(2));
         Due.same("a law stays", Due.law(x, "3"), 1);
@@ -46,22 +33,22 @@ public final class KeptTest {
     private static void images() {
         FernHeirs x = Due.of("heir 9 7;heir 4 4;hears 0 1;");
         Due.same("no image", x.restore(), -1);
-        String first = all(x);
+        String first = Due.morning(x);
         Due.same("one", x.image(), 1);
         Due.work(x, "crack 0;tap 0;hour;hour;fern 1 8;");
-        String second = all(x);
+        String second = Due.morning(x);
         Due.same("two", x.image(), 2);
         Due.work(x, "dawn;lift 1;hour;");
-        String third = all(x);
+        String third = Due.morning(x);
         Due.row("three", "3 -1 3", x::image, x::image, () -> x.count(0));
         Due.work(x, "lower 1;again 9[hour;];");
         Due.same("the third", x.restore(), 2);
-        Due.same("is as it was", all(x).equals(third) ? 1 : 0, 1);
+        Due.asBefore("is as it was", third, Due.morning(x));
         Due.row("two of them again", "2 3 2", () -> x.count(0), x::image, x::restore);
         Due.same("the second", x.restore(), 1);
-        Due.same("is as it was", all(x).equals(second) ? 1 : 0, 1);
+        Due.asBefore("is as it was", second, Due.morning(x));
         Due.same("the first", x.restore(), 0);
-        Due.same("is as it was", all(x).equals(first) ? 1 : 0, 1);
+        Due.asBefore("is as it was", first, Due.morning(x));
         Due.row("no image is left", "-1 0", x::restore, () -> x.count(0));
     }
 

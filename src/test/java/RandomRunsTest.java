@@ -4,16 +4,20 @@ import java.util.function.IntSupplier;
 
 /** Random runs of calls, right and wrong ones, each answer compared with that of the plain model. */
 public final class RandomRunsTest {
-    private static final int RUNS = 60;
+    private static final int RUNS = 450;
+    // What calls behind the 512th answer is free.
     private static final int CALLS = 512;
 
     private final Random random;
     private final FernHeirs x = new FernHeirs();
     private final PlainModel m = new PlainModel();
     private final StringBuilder told = new StringBuilder();
+    private final int textsSeldom;
+    private int calls;
 
     private RandomRunsTest(long seed) {
         random = new Random(seed);
+        textsSeldom = 1 + random.nextInt(6);
     }
 
     public static void main(String[] args) {
@@ -24,10 +28,10 @@ public final class RandomRunsTest {
     }
 
     private void run(int run) {
-        for (int call = 0; call < CALLS; call++) {
+        while (calls < CALLS) {
             told.setLength(0);
-            told.append("run ").append(run).append(", call ").append(call).append(": ");
-            if (random.nextInt(4) == 0) {
+            told.append("run ").append(run).append(", call ").append(calls).append(": ");
+            if (random.nextInt(textsSeldom) == 0) {
                 text();
             } else if (random.nextInt(3) == 0) {
                 state();
@@ -38,6 +42,10 @@ public final class RandomRunsTest {
     }
 
     private void same(String call, IntSupplier got, IntSupplier want) {
+        if (calls >= CALLS) {
+            return;
+        }
+        calls++;
         String right = answer(want);
         String answer = answer(got);
         if (!right.equals(answer)) {
@@ -97,7 +105,7 @@ public final class RandomRunsTest {
         }
         same("fault", x::fault, m::fault);
         same("refused steps", () -> x.told(10), () -> m.told(10));
-        if (x.count(1) > 0) {
+        if (m.count(1) > 0) {
             same("law(0)", () -> x.law(0), () -> m.law(0));
         }
     }
@@ -186,7 +194,7 @@ public final class RandomRunsTest {
     private String stepsText(int depth, int most) {
         StringBuilder all = new StringBuilder();
         String[] words = {"wipe", "lift", "lower", "crack", "air", "tap"};
-        int heirs = Math.max(1, x.told(0));
+        int heirs = Math.max(1, m.heirs.size());
         for (int i = random.nextInt(3) == 0 ? 0 : 1 + random.nextInt(most); i >= 0; i--) {
             int kind = random.nextInt(14);
             if (kind < 6) {
@@ -232,17 +240,17 @@ public final class RandomRunsTest {
     private void stateAnswers() {
         int what = near(0, 11);
         same("told " + what, () -> x.told(what), () -> m.told(what));
-        int h = near(0, Math.max(0, x.told(0) - 1));
+        int h = near(0, Math.max(0, m.heirs.size() - 1));
         for (int w = 0; w < 10; w++) {
             int of = w;
             same("heir " + h + " " + of, () -> x.heir(h, of), () -> m.heir(h, of));
         }
         int one = near(0, 9);
         same("heir", () -> x.heir(h, one), () -> m.heir(h, one));
-        int t = near(0, Math.max(0, x.told(1) - 1));
+        int t = near(0, Math.max(0, m.twos.size() - 1));
         int two = near(0, 1);
         same("two", () -> x.two(t, two), () -> m.two(t, two));
-        int k = near(0, Math.max(0, x.told(2) - 1));
+        int k = near(0, Math.max(0, m.keepers.size() - 1));
         int three = near(0, 2);
         same("keeper", () -> x.keeper(k, three), () -> m.keeper(k, three));
         same("rank", () -> x.rank(one), () -> m.rank(one));
@@ -257,13 +265,13 @@ public final class RandomRunsTest {
     }
 
     private void ask() {
-        int h = near(0, Math.max(0, x.told(0) - 1));
-        int o = near(0, Math.max(0, x.told(0) - 1));
+        int h = near(0, Math.max(0, m.heirs.size() - 1));
+        int o = near(0, Math.max(0, m.heirs.size() - 1));
         int bit = near(0, 1);
         int three = near(0, 3);
         int n = near(0, 99);
         int hours = near(1, random.nextInt(3) == 0 ? 96 : 12);
-        int bits = near(0, (1 << x.told(0)) - 1);
+        int bits = near(0, (1 << m.heirs.size()) - 1);
         int seed = random.nextInt();
         String args = h + " " + o + " " + bit + " " + three + " " + n + " " + hours + " " + bits + " " + seed;
         switch (random.nextInt(28)) {

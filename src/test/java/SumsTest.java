@@ -41,8 +41,8 @@ public final class SumsTest {
     }
 
     private static void regents() {
-        FernHeirs x = new FernHeirs();
         for (int v = 0; v <= 99; v += 9) {
+            FernHeirs x = new FernHeirs();
             for (int w = 0; w <= 99; w += 3) {
                 int one = v;
                 int other = w;
@@ -51,6 +51,7 @@ public final class SumsTest {
                         () -> x.regents(one, other, 1), () -> x.regents(one, other, 2));
             }
         }
+        FernHeirs x = new FernHeirs();
         Due.wrongArgument("v 100", () -> x.regents(100, 0, 0));
         Due.wrongArgument("v -1", () -> x.regents(-1, 0, 0));
         Due.wrongArgument("w 100", () -> x.regents(0, 100, 0));

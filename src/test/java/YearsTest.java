@@ -50,22 +50,8 @@ public final class YearsTest {
 
     /** A year as works, undone again: how many gasps there are in it. */
     private static int done(FernHeirs x, int seed, int hours) {
-        String[] words = {"tap ", "wipe ", "air ", "lift ", "lower "};
-        long drawn = seed;
         int before = x.told(8);
-        StringBuilder work = new StringBuilder();
-        int works = 0;
-        for (int i = 0; i < hours; i++) {
-            drawn = drawn * 1103515245L + 12345 & 0xFFFFFFFFL;
-            int heir = (int) (drawn >> 16 & 32767) % x.told(0);
-            drawn = drawn * 1103515245L + 12345 & 0xFFFFFFFFL;
-            work.append(words[(int) (drawn >> 16 & 32767) % 5]).append(heir).append(";hour;");
-            if (i % 8 == 7) {
-                Due.work(x, work.toString());
-                work.setLength(0);
-                works++;
-            }
-        }
+        int works = Due.yearAsWorks(x, seed, hours);
         int gasps = x.told(8) - before;
         for (int i = 0; i < works; i++) {
             x.undo();
